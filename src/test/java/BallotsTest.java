@@ -12,6 +12,9 @@ public final class BallotsTest {
         wrongNames();
         parcels();
         parcelsOfTheDay();
+        lastParcelIsSmall();
+        lastMember();
+        lastDays();
         c.end();
     }
 
@@ -237,5 +240,58 @@ public final class BallotsTest {
         c.due("parcels with both", x.parcels(0), 2);
         dueParcel(x, 0, 1, 1, 1, 0);
         dueParcel(x, 1, 2, 1, 0, 1);
+    }
+
+    private static void lastParcelIsSmall() {
+        StrikeBallots x = union(3, 3);
+        x.open(7);
+        x.sendAll(0);
+        int[] hows = {1, 2, 1, 3, 1, 2, 1, 2};
+        for (int m = 0; m < hows.length; m++) {
+            x.back(0, m, hows[m]);
+        }
+        c.due("parcels, the last one small", x.parcels(0), 2);
+        dueParcel(x, 0, 1, 3, 2, 1);
+        dueParcel(x, 1, 6, 5, 2, 2);
+        x.back(0, 8, 3);
+        c.due("parcels, the last one big enough", x.parcels(0), 3);
+        dueParcel(x, 1, 2, 3, 1, 1);
+        dueParcel(x, 2, 4, 3, 1, 1);
+    }
+
+    private static void lastMember() {
+        StrikeBallots x = union(1, 40);
+        x.open(1);
+        c.due("send(0, 39)", x.send(0, 39), 1);
+        c.due("send(0, 39) again", x.send(0, 39), Checks.NO);
+        c.due("back(0, 39, 2)", x.back(0, 39, 2), 1);
+        c.due("back(0, 39, 2) again", x.back(0, 39, 2), Checks.NO);
+        c.due("sendAll(0) to the others", x.sendAll(0), 39);
+        c.due("n of all 40", x.name(0, 'n', 0), 1);
+        c.due("e of all 40", x.name(0, 'e', 0), 40);
+        c.due("parcel of all 40", x.parcel(0, 0, 3), 1);
+    }
+
+    private static void lastDays() {
+        for (int last = 399; last <= 400; last++) {
+            StrikeBallots x = union(1, 2);
+            for (int i = 0; i < 6; i++) {
+                x.days(60);
+            }
+            x.days(last - 360);
+            x.open(1);
+            x.send(0, 0);
+            c.due("send again on " + last, x.send(0, 0), Checks.NO);
+            x.back(0, 0, 1);
+            c.due("back again on " + last, x.back(0, 0, 1), Checks.NO);
+            c.due("m on " + last, x.name(0, 'm', last), 1);
+            c.due("close on " + last, x.close(0), 1);
+            c.due("close again on " + last, x.close(0), Checks.NO);
+            c.due("closing day " + last, x.about(0, 2), last);
+            c.due("leave on " + last, x.leave(1), 0);
+            c.due("leave again on " + last, x.leave(1), Checks.NO);
+            c.due("day of leaving " + last, x.told(1, 4), last);
+            c.due("of on " + last, x.of(1, last), Checks.NONE);
+        }
     }
 }

@@ -49,7 +49,8 @@ final class Checks {
         }
     }
 
-    private static int four(String text, int from) {
+    /** Four bytes of a text as a number, the highest first. */
+    static int four(String text, int from) {
         int four = 0;
         for (int i = from; i < from + 4; i++) {
             four = four << 8 | (i < text.length() ? text.charAt(i) & 255 : 0);
