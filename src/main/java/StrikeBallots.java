@@ -548,7 +548,7 @@ public final class StrikeBallots {
     }
 
     private static boolean isLetter(int v) {
-        return isWithin(v, 'a', 'z');
+        return v >= 'a' && v <= 'z';
     }
 
     private static boolean isHalfList(int bits) {
@@ -585,7 +585,8 @@ public final class StrikeBallots {
 
     private boolean isLiving(Ballot ballot, int day) {
         int from = ballot.closing;
-        return from <= day && isStanding(ballot, from) && day - from <= lawFor(ballot, Law.LIFE, from);
+        return hasLaw && from <= day && lawFor(ballot, Law.STANDS, from) != 0
+                && day - from <= lawFor(ballot, Law.LIFE, from);
     }
 
     private boolean makePlan(int ballot, int n) {
@@ -1129,7 +1130,7 @@ public final class StrikeBallots {
             if (isLetter(b)) {
                 return WORD;
             }
-            return isWithin(b, '0', '9') ? DIGITS : SIGN;
+            return b >= '0' && b <= '9' ? DIGITS : SIGN;
         }
 
         private static boolean isRow(int sort) {
@@ -1238,13 +1239,12 @@ public final class StrikeBallots {
         }
 
         private boolean readPart(int parens, int bangs) {
-            int number = tape.numberAtHand();
-            if (number >= 0) {
-                return takeOperand(number);
-            }
-            char letter = tape.letterAtHand();
-            if (isNameHere(letter)) {
-                return takeOperand(NAME + letter);
+            int operand = operandAtHand();
+            if (operand >= 0) {
+                write(operand);
+                operands++;
+                tape.goOn();
+                return true;
             }
             char sign = tape.signAtHand();
             if (sign == '!' && bangs < DEEPEST) {
@@ -1255,28 +1255,23 @@ public final class StrikeBallots {
             }
             if (sign == '(' && parens < DEEPEST) {
                 tape.goOn();
-                return readLevel(OR, parens + 1, bangs) && takeClosing();
+                boolean isWell = readLevel(OR, parens + 1, bangs) && tape.signAtHand() == ')';
+                if (isWell) {
+                    tape.goOn();
+                }
+                return isWell;
             }
             return false;
         }
 
+        /** The step for a number or a name at hand; -1, if there is none that may stand here. */
+        private int operandAtHand() {
+            char letter = tape.letterAtHand();
+            return isNameHere(letter) ? NAME + letter : tape.numberAtHand();
+        }
+
         private boolean isNameHere(char letter) {
             return isBallotName(letter) || reading == NOTICE && NOTICE_NAMES.indexOf(letter) >= 0;
-        }
-
-        private boolean takeOperand(int step) {
-            write(step);
-            operands++;
-            tape.goOn();
-            return true;
-        }
-
-        private boolean takeClosing() {
-            boolean isClosing = tape.signAtHand() == ')';
-            if (isClosing) {
-                tape.goOn();
-            }
-            return isClosing;
         }
 
         private static int levelOf(char sign) {
