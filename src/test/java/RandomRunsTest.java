@@ -1,9 +1,6 @@
-import java.lang.reflect.Method;
 import java.util.ArrayList;
 import java.util.Arrays;
-import java.util.HashMap;
 import java.util.List;
-import java.util.Map;
 import java.util.Random;
 
 /** Long runs of calls by a fixed seed, each answer against that of the plain model; all promises. */
@@ -13,7 +10,6 @@ public final class RandomRunsTest {
     private static final int[] ODD = {-1, 0, 1, 41, 400, 401, 1000000, Integer.MAX_VALUE, Integer.MIN_VALUE, -100};
 
     private static final Checks c = new Checks();
-    private static final Map<String, Method> methods = new HashMap<>();
 
     private final Random random;
     private final StrikeBallots real = new StrikeBallots();
@@ -27,9 +23,6 @@ public final class RandomRunsTest {
     }
 
     public static void main(String[] args) throws ReflectiveOperationException {
-        for (Method method : StrikeBallots.class.getDeclaredMethods()) {
-            methods.put(method.getName(), method);
-        }
         for (int seed = 0; seed < RUNS; seed++) {
             new RandomRunsTest(seed).run();
         }
@@ -58,8 +51,7 @@ public final class RandomRunsTest {
             return;
         }
         calls++;
-        Object[] boxed = Arrays.stream(args).boxed().toArray();
-        int got = (Integer) methods.get(call).invoke(real, boxed);
+        int got = Calls.ask(real, call, args);
         c.due(of + calls + ": " + call + Arrays.toString(args), got, model.answer(call, args));
     }
 
