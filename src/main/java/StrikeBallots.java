@@ -23,9 +23,9 @@ public final class StrikeBallots {
     private int ballotCount;
     private final Parcels parcels = new Parcels();
     private final Tape tape = new Tape();
-    private Law law = new Law();
+    private Law law = new Law(tape);
     /** A text with a fault must leave the law as it is: each text is read into this one, and they change places. */
-    private Law draft = new Law();
+    private Law draft = new Law(tape);
     private boolean hasLaw;
     private final Names names = new Names();
     private final Notice[] notices = new Notice[MOST_NOTICES];
@@ -289,7 +289,7 @@ public final class StrikeBallots {
     }
 
     public int law() {
-        boolean isWell = draft.readFrom(tape);
+        boolean isWell = draft.readTape();
         tape.length = 0;
         if (!isWell) {
             return -100 - tape.start;
@@ -1193,18 +1193,21 @@ public final class StrikeBallots {
         private int stepCount;
         private final int[] ends = new int[PARTS];
         private int operands;
-        private Tape tape;
+        private final Tape tape;
         private int reading;
         private final int[] stack = new int[Tape.ROOM];
         private int height;
+
+        Law(Tape tape) {
+            this.tape = tape;
+        }
 
         static boolean isBallotName(char letter) {
             return BALLOT_NAMES.indexOf(letter) >= 0;
         }
 
         /** Whether the tape holds a law; if it does not, it stands at the fault. */
-        boolean readFrom(Tape text) {
-            tape = text;
+        boolean readTape() {
             stepCount = 0;
             operands = 0;
             tape.rewind();

@@ -112,6 +112,9 @@ public final class FaceTest {
             for (Field field : own.getDeclaredFields()) {
                 c.holds(field + " is static and not final",
                         !Modifier.isStatic(field.getModifiers()) || Modifier.isFinal(field.getModifiers()));
+                // Rule 7: what is set once, when the object is made, is never null behind that.
+                c.holds(field + " holds an object and is not final",
+                        field.getType().isPrimitive() || Modifier.isFinal(field.getModifiers()));
             }
         }
     }
