@@ -21,10 +21,15 @@ import javax.lang.model.element.Modifier;
 import javax.tools.StandardJavaFileManager;
 import javax.tools.ToolProvider;
 
-/** The language's rule 11: calls that are no recursion go at most eight deep, the public one counted. */
+/** What calls what, by the language's rules: 4, only what it lists of the library; 11, at most eight deep but for recursion. */
 public final class DepthTest {
     private static final Path SOURCE = Path.of("src/main/java/StrikeBallots.java");
+    /** The public call is counted, too. */
     private static final int DEEPEST = 8;
+    private static final Set<String> LIBRARY = Set.of("Object.Object()", "String.length()", "String.charAt(int)",
+            "String.isEmpty()", "String.indexOf(int)", "Integer.bitCount(int)", "Long.bitCount(long)", "Math.max(int,int)",
+            "Math.min(int,int)", "Arrays.fill(int[],int)", "Arrays.fill(short[],short)",
+            "System.arraycopy(java.lang.Object,int,java.lang.Object,int,int)");
 
     private static final Checks c = new Checks();
     private static final Map<Element, Set<Element>> calls = new HashMap<>();
@@ -39,7 +44,27 @@ public final class DepthTest {
             }
         }
         c.due("public methods and the constructor", asked, 46);
+        library();
         c.end();
+    }
+
+    private static void library() {
+        for (Set<Element> called : calls.values()) {
+            for (Element method : called) {
+                String name = method.getEnclosingElement().getSimpleName() + "." + nameOf(method);
+                c.holds("rule 4 does not list " + name, calls.containsKey(method) || isOwn(method) || LIBRARY.contains(name));
+            }
+        }
+    }
+
+    /** A constructor is called by its class's name. */
+    private static String nameOf(Element method) {
+        return method.toString().replace("<init>", method.getEnclosingElement().getSimpleName());
+    }
+
+    /** A constructor that is not written out is not among the methods of the source. */
+    private static boolean isOwn(Element method) {
+        return method.getEnclosingElement().toString().startsWith("StrikeBallots");
     }
 
     private static void readCalls() throws IOException {
